@@ -15,6 +15,7 @@ public final class PromiseTests {
         promise4FaultOfNumbers();
         promise4FaultOfTooMany();
         promise5Lay();
+        promise5LayAnew();
         promise5Defaults();
         promise6Read();
         promise7Wire();
@@ -279,12 +280,35 @@ public final class PromiseTests {
         due("5 COUNT", bases.device(0, 6), 0);
     }
 
+    private static void promise5LayAnew() {
+        AlarmRing ring = laid("d0,0,1;d0,0,1;e0,1,0,1;");
+        ring.wipe();
+        writeAll(ring, "d0,0,0;d0,0,0;e0,1,0,0;");
+        due("5 lay", ring.lay(), 2);
+        due("5 no ISOLATOR of the one ahead", ring.device(0, 2) + ring.device(1, 2), 0);
+        due("5 no SOUND of the one ahead", ring.effect(0, 3), 0);
+        ring.wipe();
+        writeAll(ring, "d1,5,1;d9");
+        due("5 FAULT of another TEXT", ring.fault(), 7);
+        due("5 what is laid stays", ring.count(0), 2);
+        due("5 what is laid stays", ring.device(0, 1), 0);
+        due("5 lay of a FAULT", ring.lay(), NO);
+        due("5 what is laid stays", ring.count(1), 1);
+        due("5 what is laid stays", ring.device(0, 0), 0);
+        ring.wipe();
+        writeAll(ring, "d0,0,0;d0,0,0;d0,0,0;");
+        due("5 lay", ring.lay(), 3);
+        due("5 no EFFECT of the one ahead", ring.count(1), 0);
+    }
+
     private static void promise5Defaults() {
         AlarmRing ring = laid("d0,0,0;d0,1,0;");
         ring.read(0, 59);
         ring.read(1, 60);
         due("5 PRE 30", ring.device(0, 7), 1);
         due("5 ALARM 60", ring.device(1, 7), 2);
+        ring.read(0, 30);
+        due("5 PRE 30", ring.device(0, 7), 1);
         ring.read(0, 29);
         due("5 below PRE 30", ring.device(0, 7), 0);
         due("5 CONFIRM 2", ring.tick(2), 0);
@@ -641,6 +665,23 @@ public final class PromiseTests {
         due("12 the TICK", ring.count(7), 1);
         ring.lay();
         due("12 a lay that fails leaves it", ring.count(9), 1);
+        AlarmRing cut = new AlarmRing();
+        cut.wire(3, 1);
+        cut.wire(5, 2);
+        cut.read(0, 1);
+        cut.wire(3, 0);
+        cut.wire(5, 0);
+        cut.undo();
+        due("12 SHORT again", cut.wireOf(5, 0), 2);
+        due("12 still whole", cut.wireOf(3, 0), 0);
+        cut.undo();
+        due("12 CUT again", cut.wireOf(3, 0), 1);
+        cut.undo();
+        due("12 still CUT", cut.wireOf(3, 0), 1);
+        due("12 still SHORT", cut.wireOf(5, 0), 2);
+        cut.undo();
+        cut.undo();
+        due("12 whole", cut.wireOf(3, 0) + cut.wireOf(5, 0), 0);
     }
 
     private static void promise12UndoOfEachChange() {
@@ -790,6 +831,8 @@ public final class PromiseTests {
         bare.wire(2, 2);
         stops(bare, 0, 1, 2, 0, 2);
         stops(bare, 1, 2, 2, 2, 2);
+        bare.wire(0, 2);
+        stops(bare, 1, 2, 2, 2, 0);
     }
 
     private static void stops(AlarmRing ring, int i, int end, int by, int wire, int lowestShort) {
