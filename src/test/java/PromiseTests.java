@@ -21,6 +21,7 @@ public final class PromiseTests {
         promise7Wire();
         promise8Day();
         promise9Tick();
+        promise9TickOfAFullRing();
         promise9Bases();
         promise9Lost();
         promise9Effects();
@@ -445,6 +446,23 @@ public final class PromiseTests {
         AlarmRing quick = laid("d0,0,0;t20,40,0,9;");
         quick.read(0, 40);
         due("9 CONFIRM 0", quick.tick(1), 1);
+    }
+
+    private static void promise9TickOfAFullRing() {
+        AlarmRing ring = laid("d2,5,1;".repeat(12) + "e0,63,0,1;".repeat(6));
+        for (int i = 0; i < 12; i++) {
+            ring.read(i, 1);
+        }
+        due("9 twelve come", ring.tick(1), 12);
+        due("9 the last one", ring.device(11, 7), 3);
+        due("9 six EFFECTS are ON", ring.count(5), 6);
+        due("9 six are SILENT", ring.silence(), 6);
+        due("9 of ZONE 5 twelve are in FIRE", ring.zone(5, 5), 12);
+        ring.wire(0, 1);
+        ring.wire(12, 2);
+        due("9 all are LOST", ring.count(2), 12);
+        due("9 the last 6", ring.undo(), 5);
+        due("9 none is LOST", ring.count(2), 0);
     }
 
     private static void promise9Bases() {
