@@ -23,6 +23,10 @@ public final class LanguageTests {
         "throw", "throws", "try", "catch", "finally", "synchronized", "assert", "volatile", "native", "transient",
         "equals", "hashCode", "toString", "package", "protected", "double", "float", "Object", "goto"};
 
+    /** Of the library; what else is called by a class's name is a function of a class inside. */
+    private static final Set<String> LIBRARY = Set.of("Integer.bitCount", "Math.max", "Math.min", "Arrays.fill", "System.arraycopy");
+    private static final int MOST_FIELDS = 20;
+
     private LanguageTests() {
     }
 
@@ -30,6 +34,7 @@ public final class LanguageTests {
         face();
         constants();
         nestedClasses();
+        fewFields(AlarmRing.class);
         letters();
         check.end();
     }
@@ -88,12 +93,18 @@ public final class LanguageTests {
                 !Modifier.isPublic(c.getModifiers()) && !Modifier.isProtected(c.getModifiers()));
             check.holds(c.getName() + " holds no class", c.getDeclaredClasses().length == 0);
             Arrays.stream(c.getDeclaredFields()).forEach(LanguageTests::staticIsFinal);
+            fewFields(c);
             for (Method m : c.getDeclaredMethods()) {
                 check.holds(m.getName() + " has at most seven parameters", m.getParameterCount() <= 7);
                 check.holds(m.getName() + " is no name of the face",
                     Arrays.stream(FACE).noneMatch(told -> told.split(" ")[0].equals(m.getName())));
             }
         }
+    }
+
+    private static void fewFields(Class<?> c) {
+        long fields = Arrays.stream(c.getDeclaredFields()).filter(f -> !Modifier.isStatic(f.getModifiers())).count();
+        check.holds(c.getName() + " has " + fields + " fields", fields <= MOST_FIELDS);
     }
 
     private static void letters() throws Exception {
@@ -111,7 +122,21 @@ public final class LanguageTests {
             check.holds("import " + imports.group(1),
                 Set.of("java.util.Arrays", "java.util.ArrayList", "java.util.List").contains(imports.group(1)));
         }
+        library(code);
         shortMethods(code);
+    }
+
+    private static void library(String code) {
+        Set<String> inside = new HashSet<>();
+        Arrays.stream(AlarmRing.class.getDeclaredClasses()).forEach(c -> inside.add(c.getSimpleName()));
+        Matcher calls = Pattern.compile("\\b([A-Z][a-z]\\w*)\\.(\\w+)\\(").matcher(code);
+        int found = 0;
+        while (calls.find()) {
+            found++;
+            check.holds("of the library " + calls.group(),
+                inside.contains(calls.group(1)) || LIBRARY.contains(calls.group(1) + "." + calls.group(2)));
+        }
+        check.holds("calls of functions were found", found > 10);
     }
 
     private static void shortMethods(String code) {
